@@ -495,11 +495,17 @@ public final class PromiseTests {
         dueThrow(INDEX, x, () -> x.treeCostByGrowing(6));
         dueThrow(INDEX, x, () -> x.treeCostByGrowing(-1));
         x.setBlocked(1, true);
+        DandelionBroadcast dear = fields(3);
+        dear.addPath(0, 1, 9, 0);
+        dear.addPath(2, 1, 9, 0);
+        dear.addPath(2, 0, 9, 0);
         promise(24);
         due(11, () -> x.treeCost(0));
+        due(18, () -> dear.treeCost(0));
         due(0, () -> fields(1).treeCost(0));
         promise(25);
         due(11, () -> x.treeCostByGrowing(0));
+        due(18, () -> dear.treeCostByGrowing(0));
         due(0, () -> fields(1).treeCostByGrowing(0));
     }
 
@@ -715,11 +721,13 @@ public final class PromiseTests {
         x.wind();
         x.wind();
         due(2, x::abort);
+        x.startBroadcast(0, 2, false);
+        due(0, x::abort);
         due(false, x::isBroadcasting);
         due(0, x::failedCount);
         due(0, x::finishedCount);
         due(2, () -> x.packetsOf(0));
-        dueReject(DandelionBroadcast.NO_BROADCAST, 2, x, x::abort);
+        dueReject(DandelionBroadcast.NO_BROADCAST, 3, x, x::abort);
     }
 
     private static void latestBroadcast() {
@@ -847,10 +855,10 @@ public final class PromiseTests {
         promise(41);
         due(10, x::energyLeft);
         x.setShield(1, 5);
-        promise(40);
-        due(1, x::windsLeft);
         promise(41);
         due(6, x::energyLeft);
+        promise(40);
+        due(1, x::windsLeft);
         x.abort();
         promise(40);
         dueThrow(NONE, x, x::windsLeft);
@@ -1270,26 +1278,29 @@ public final class PromiseTests {
     private static void undoOfEachChange() {
         promise(63);
         DandelionBroadcast x = ring();
-        x.setSeed(30);
-        for (int kind = 0; kind < 11; kind++) {
-            int which = kind;
-            String before = data(x);
-            int seed = previousSeed(x);
-            change(x, which);
-            x.undo();
-            due(which + before, () -> which + data(x));
-            due(seed, () -> previousSeed(x));
-            if (kind == 6) {
-                x.startBroadcast(0, 2, true);
-                due(0, x::source);
-            }
-        }
-        x.abort();
-        x.undo();
-        x.undo();
+        undoInTurn(x, new int[] {0, 1, 2, 3, 4, 5, 6, 7});
+        undoInTurn(x, new int[] {10, 6, 7, 1, 7, 8, 6, 9});
+        undoInTurn(x, new int[] {6, 9, 6, 9, 5, 3, 10, 0});
+        undoInTurn(x, new int[] {2, 6, 8, 3, 10, 0, 1, 5});
         due(false, x::isBroadcasting);
         due(NONE, x::source);
         due(1, () -> x.startBroadcast(1, 1, true));
+    }
+
+    /** Eight changes, and then the way back through the data ahead of each of them. */
+    private static void undoInTurn(DandelionBroadcast x, int[] kinds) {
+        String[] before = new String[kinds.length];
+        for (int i = 0; i < kinds.length; i++) {
+            before[i] = data(x);
+            change(x, kinds[i]);
+        }
+        for (int i = kinds.length - 1; i >= 0; i--) {
+            int left = i;
+            due(left, x::undo);
+            due(left + before[left], () -> left + data(x));
+        }
+        due(STATE, x::undo);
+        due(0, () -> previousSeed(x));
     }
 
     private static void change(DandelionBroadcast x, int kind) {
@@ -1304,7 +1315,7 @@ public final class PromiseTests {
             case 7: x.wind(); break;
             case 8: x.windUntilEnd(); break;
             case 9: x.abort(); break;
-            default: run(x, "field 1;wind;abort;send 4 6;finish;seed 5;block 1"); break;
+            default: run(x, "field 1;seed 5;send 4 6;finish;block 1;shield 0 9"); break;
         }
     }
 
@@ -1341,6 +1352,15 @@ public final class PromiseTests {
         due(7, x::restoreSnapshot);
         due(7, x::fieldCount);
         due(STATE, x::undo);
+        DandelionBroadcast failing = line(9, 9);
+        failing.startBroadcast(0, 6, true);
+        failing.windUntilEnd();
+        failing.saveSnapshot();
+        String failed = data(failing);
+        failing.startBroadcast(0, 6, false);
+        failing.windUntilEnd();
+        failing.restoreSnapshot();
+        due(failed, () -> data(failing));
         // The input, the output, the latest rejection and the latest syntax error are not covered.
         x.writeField(0);
         due(VALUE, () -> run(x, "x"));
