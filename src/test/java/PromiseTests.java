@@ -1,19 +1,8 @@
-import java.util.NoSuchElementException;
 import java.util.concurrent.Callable;
 
-/** For each promise of the document: ordinary inputs, the edges that it names, and wrong inputs. */
-public final class PromiseTests {
-    private static final Class<?> INDEX = IndexOutOfBoundsException.class;
-    private static final Class<?> VALUE = IllegalArgumentException.class;
-    private static final Class<?> REJECTED = UnsupportedOperationException.class;
-    private static final Class<?> NONE = NoSuchElementException.class;
-    private static final Class<?> STATE = IllegalStateException.class;
-    private static final Class<?> DIVISION = ArithmeticException.class;
-
+/** For each promise of the document: ordinary inputs, the edges that it names, and wrong inputs, in longer runs of calls. */
+public final class PromiseTests extends Checks {
     private static final int PROMISES = 65;
-    private static final int[] checks = new int[PROMISES + 1];
-    private static int promise = 0;
-    private static int wrong = 0;
 
     public static void main(String[] args) {
         newObject();
@@ -54,44 +43,19 @@ public final class PromiseTests {
         undoOfEachChange();
         snapshots();
         for (int number = 1; number <= PROMISES; number++) {
-            if (checks[number] == 0) {
+            if (!checks.containsKey("Promise " + number)) {
                 fail("promise " + number + " has no test");
             }
         }
-        System.out.println(wrong == 0 ? "all promises hold" : wrong + " answers are not as due");
-        if (wrong != 0) {
-            System.exit(1);
-        }
+        end();
     }
 
-    private static void fail(String text) {
-        wrong++;
-        System.out.println(text);
-    }
-
-    private static void promise(int number) {
-        promise = number;
-    }
-
-    private static void due(Object want, Callable<?> call) {
-        checks[promise]++;
-        Object got;
-        try {
-            got = call.call();
-        } catch (Exception e) {
-            got = e.getClass();
-        }
-        if (!want.equals(got)) {
-            fail("promise " + promise + ", check " + checks[promise] + ": " + got + ", due is " + want);
-        }
-    }
-
-    /** The call throws this, and changes neither the data nor, unless it is rejected, the latest rejection. */
+    /** The call throws this, and changes no totals and, unless it is rejected, not the latest rejection. */
     private static void dueThrow(Class<?> want, DandelionBroadcast x, Callable<?> call) {
-        String data = data(x);
+        String totals = totals(x);
         String rejection = rejection(x);
         due(want, call);
-        due(data, () -> data(x));
+        due(totals, () -> totals(x));
         if (want != REJECTED) {
             due(rejection, () -> rejection(x));
         }
@@ -99,91 +63,7 @@ public final class PromiseTests {
 
     private static void dueReject(int reason, int detail, DandelionBroadcast x, Callable<?> call) {
         dueThrow(REJECTED, x, call);
-        due(reason, x::rejectionReason);
-        due(detail, x::rejectionDetail);
-        due(NONE, x::causeReason);
-    }
-
-    private static String rejection(DandelionBroadcast x) {
-        try {
-            return x.rejectionReason() + " " + x.rejectionDetail();
-        } catch (NoSuchElementException e) {
-            return "none";
-        }
-    }
-
-    /** All that undo and the snapshot cover, but for the seed, which only draws can tell. */
-    private static String data(DandelionBroadcast x) {
-        StringBuilder text = new StringBuilder();
-        for (int field = 0; field < x.fieldCount(); field++) {
-            text.append(x.shieldOf(field)).append('/').append(x.packetsOf(field)).append(' ');
-        }
-        for (int path = 0; path < x.pathCount(); path++) {
-            text.append('|').append(x.firstOf(path)).append('-').append(x.secondOf(path)).append(' ');
-            text.append(x.costOf(path)).append(x.gustOf(path)).append(x.isBlocked(path)).append(x.useOf(path));
-        }
-        text.append(x.isBroadcasting()).append(x.sentCount()).append(' ').append(x.lostCount()).append(' ');
-        text.append(x.rebuiltCount()).append(' ').append(x.energy()).append(' ').append(x.finishedCount());
-        text.append(' ').append(x.failedCount()).append(' ').append(x.coveredCount());
-        if (x.isBroadcasting()) {
-            text.append(' ').append(x.source()).append(' ').append(x.windsLeft()).append(' ').append(x.energyLeft());
-        }
-        return text.toString();
-    }
-
-    private static int previousSeed(DandelionBroadcast x) {
-        int seed = x.setSeed(0);
-        x.undo();
-        return seed;
-    }
-
-    /** Fields without shields. */
-    private static DandelionBroadcast fields(int count) {
-        DandelionBroadcast x = new DandelionBroadcast();
-        for (int field = 0; field < count; field++) {
-            x.addField(0);
-        }
-        return x;
-    }
-
-    /** Fields in a line, with paths of the cost 1 and this gust. */
-    private static DandelionBroadcast line(int count, int gust) {
-        DandelionBroadcast x = fields(count);
-        for (int field = 1; field < count; field++) {
-            x.addPath(field - 1, field, 1, gust);
-        }
-        return x;
-    }
-
-    /** Nine fields, and a path for each of the first pairs (0, 1), (0, 2) .. (1, 2) .. */
-    private static DandelionBroadcast full(int paths) {
-        DandelionBroadcast x = fields(9);
-        for (int first = 0; first < 9; first++) {
-            for (int second = first + 1; second < 9 && x.pathCount() < paths; second++) {
-                x.addPath(first, second, 1, 0);
-            }
-        }
-        return x;
-    }
-
-    private static void type(DandelionBroadcast x, String text) {
-        for (int i = 0; i < text.length(); i++) {
-            x.appendInput(text.charAt(i));
-        }
-    }
-
-    private static Object run(DandelionBroadcast x, String text) {
-        type(x, text);
-        return x.execute();
-    }
-
-    private static String written(DandelionBroadcast x, int field) {
-        int length = x.writeField(field);
-        StringBuilder text = new StringBuilder();
-        for (int i = 0; i < length; i++) {
-            text.append(x.outputAt(i));
-        }
-        return text.toString();
+        due(reason + " " + detail + " " + NONE, () -> rejection(x));
     }
 
     private static void newObject() {
@@ -203,7 +83,7 @@ public final class PromiseTests {
         due(NONE, x::causeReason);
         due(NONE, x::syntaxErrorOffset);
         due(NONE, x::source);
-        due(0, () -> previousSeed(x));
+        due(0, () -> seedOf(x));
     }
 
     private static void addField() {
@@ -469,17 +349,6 @@ public final class PromiseTests {
         due(3, x::bridgeCountByBlocking);
     }
 
-    /** A ring 0-1-2-3 whose dearest path, of two of the same cost, is the one with the greater id. */
-    private static DandelionBroadcast ring() {
-        DandelionBroadcast x = fields(6);
-        x.addPath(1, 0, 5, 9);
-        x.addPath(1, 2, 2, 3);
-        x.addPath(3, 2, 1, 0);
-        x.addPath(3, 0, 5, 4);
-        x.addPath(4, 5, 7, 1);
-        return x;
-    }
-
     private static void treeCosts() {
         DandelionBroadcast x = ring();
         promise(24);
@@ -574,15 +443,15 @@ public final class PromiseTests {
         due(511, () -> x.setSeed(0));
         dueThrow(VALUE, x, () -> x.setSeed(-1));
         dueThrow(VALUE, x, () -> x.setSeed(512));
-        due(0, () -> previousSeed(x));
+        due(0, () -> seedOf(x));
         // (30 * 61 + 17) % 512 = 311, and 1 is less than the danger 2.
         DandelionBroadcast drawn = line(2, 2);
         drawn.setSeed(30);
         drawn.startBroadcast(0, 1, false);
         due(0, drawn::wind);
-        due(311, () -> previousSeed(drawn));
+        due(311, () -> seedOf(drawn));
         due(1, drawn::wind);
-        due(44, () -> previousSeed(drawn));
+        due(44, () -> seedOf(drawn));
     }
 
     private static void startBroadcast() {
@@ -1093,7 +962,7 @@ public final class PromiseTests {
         due(1, () -> run(x, "open 00"));
         due(false, () -> x.isBlocked(0));
         due(1, () -> run(x, "seed 511"));
-        due(511, () -> previousSeed(x));
+        due(511, () -> seedOf(x));
         due(1, () -> run(x, "send 1 6+"));
         due(7, () -> x.packetsOf(1));
         due(1, () -> run(x, "wind"));
@@ -1124,24 +993,25 @@ public final class PromiseTests {
 
     private static void executeFailing() {
         promise(58);
-        DandelionBroadcast x = line(2, 9);
-        dueThrow(VALUE, x, () -> run(x, "field 1;"));
-        dueThrow(VALUE, x, x::execute);
+        DandelionBroadcast wrong = line(2, 9);
+        dueThrow(VALUE, wrong, () -> run(wrong, "field 1;"));
+        dueThrow(VALUE, wrong, wrong::execute);
         // Each of these commands fails by another exception than a rejection.
         String[] failing = {"shield 3 1", "gust 1 0", "block 001", "open 999", "seed 512", "send 3 1", "send 0 0",
             "send 0 7", "path 0-0 1 1", "path 0-3 1 1", "path 9-0 1 1", "path 0-1 0 1"};
         for (String command : failing) {
-            dueThrow(STATE, x, () -> run(x, "field 4;" + command + ";abort"));
-            due(2, () -> run(x, "field 4;field 4"));
-            x.undo();
+            DandelionBroadcast failed = line(2, 9);
+            dueThrow(STATE, failed, () -> run(failed, "field 4;" + command + ";abort"));
+            due(2, () -> run(failed, "field 4;field 4"));
         }
+        DandelionBroadcast x = line(2, 9);
         dueThrow(REJECTED, x, () -> run(x, "seed 9;field 4;abort;seed 999"));
         due(7, x::rejectionReason);
         due(2, x::rejectionDetail);
         promise(62);
         due(6, x::causeReason);
         promise(58);
-        due(0, () -> previousSeed(x));
+        due(0, () -> seedOf(x));
         dueThrow(REJECTED, x, () -> run(x, "open 0"));
         due("7 0 4", () -> x.rejectionReason() + " " + x.rejectionDetail() + " " + x.causeReason());
         dueThrow(STATE, x, () -> run(x, "seed 999;open 0"));
@@ -1168,8 +1038,6 @@ public final class PromiseTests {
 
     private static void syntaxErrors() {
         promise(59);
-        DandelionBroadcast x = line(2, 9);
-        due(NONE, x::syntaxErrorOffset);
         String[] texts = {"", ";", "x", "f", "fx", "fi", "fie", "fin", "fix", "field", "field ", "field x", "field 1 ",
             "field 12", "finish1", "finis", "s", "sx", "se", "sex", "see", "seed", "seed ", "seed x", "seed 1234",
             "seed 12x", "seed 123;", "send 1", "send 1 ", "send 1 1 ", "send 1 1++", "send 10", "send  1",
@@ -1187,9 +1055,13 @@ public final class PromiseTests {
         due(texts.length, () -> offsets.length);
         for (int i = 0; i < texts.length; i++) {
             String text = texts[i];
-            due(VALUE, () -> run(x, text));
-            due(text + " " + offsets[i], () -> text + " " + x.syntaxErrorOffset());
+            DandelionBroadcast wrong = line(2, 9);
+            due(NONE, wrong::syntaxErrorOffset);
+            due(VALUE, () -> run(wrong, text));
+            due(text + " " + offsets[i], () -> text + " " + wrong.syntaxErrorOffset());
         }
+        DandelionBroadcast x = line(2, 9);
+        due(VALUE, () -> run(x, "path 1-23"));
         run(x, "field 1");
         due(8, x::syntaxErrorOffset);
         x.undo();
@@ -1277,30 +1149,39 @@ public final class PromiseTests {
 
     private static void undoOfEachChange() {
         promise(63);
-        DandelionBroadcast x = ring();
-        undoInTurn(x, new int[] {0, 1, 2, 3, 4, 5, 6, 7});
-        undoInTurn(x, new int[] {10, 6, 7, 1, 7, 8, 6, 9});
-        undoInTurn(x, new int[] {6, 9, 6, 9, 5, 3, 10, 0});
-        undoInTurn(x, new int[] {2, 6, 8, 3, 10, 0, 1, 5});
-        due(false, x::isBroadcasting);
-        due(NONE, x::source);
-        due(1, () -> x.startBroadcast(1, 1, true));
+        undoInTurn(new int[] {0, 1, 2, 3, 4, 5, 6, 7});
+        undoInTurn(new int[] {10, 6, 7, 1, 7, 8, 6, 9});
+        undoInTurn(new int[] {6, 9, 6, 9, 5, 3, 10, 0});
+        undoInTurn(new int[] {2, 6, 8, 3, 10, 0, 1, 5});
     }
 
-    /** Eight changes, and then the way back through the data ahead of each of them. */
-    private static void undoInTurn(DandelionBroadcast x, int[] kinds) {
-        String[] before = new String[kinds.length];
-        for (int i = 0; i < kinds.length; i++) {
-            before[i] = data(x);
+    /** Eight changes, and the way back through the data ahead of each of them. */
+    private static void undoInTurn(int[] kinds) {
+        for (int left = kinds.length - 1; left >= 0; left--) {
+            DandelionBroadcast x = changed(kinds, kinds.length);
+            for (int undone = kinds.length - 1; undone > left; undone--) {
+                x.undo();
+            }
+            due(left, x::undo);
+            DandelionBroadcast before = changed(kinds, left);
+            due(data(before), () -> data(x));
+            due(seedOf(before), () -> seedOf(x));
+        }
+        DandelionBroadcast all = changed(kinds, kinds.length);
+        for (int undone = 0; undone < kinds.length; undone++) {
+            all.undo();
+        }
+        due(STATE, all::undo);
+        due(NONE, all::source);
+        due(1, () -> all.startBroadcast(1, 1, true));
+    }
+
+    private static DandelionBroadcast changed(int[] kinds, int count) {
+        DandelionBroadcast x = ring();
+        for (int i = 0; i < count; i++) {
             change(x, kinds[i]);
         }
-        for (int i = kinds.length - 1; i >= 0; i--) {
-            int left = i;
-            due(left, x::undo);
-            due(left + before[left], () -> left + data(x));
-        }
-        due(STATE, x::undo);
-        due(0, () -> previousSeed(x));
+        return x;
     }
 
     private static void change(DandelionBroadcast x, int kind) {
@@ -1327,7 +1208,7 @@ public final class PromiseTests {
         x.startBroadcast(0, 2, true);
         x.wind();
         String saved = data(x);
-        int seed = previousSeed(x);
+        int seed = seedOf(x);
         promise(64);
         due(6, x::saveSnapshot);
         due(saved, () -> data(x));
@@ -1337,7 +1218,7 @@ public final class PromiseTests {
         promise(65);
         due(6, x::restoreSnapshot);
         due(saved, () -> data(x));
-        due(seed, () -> previousSeed(x));
+        due(seed, () -> seedOf(x));
         due(STATE, x::undo);
         x.addField(1);
         x.setBlocked(0, true);
