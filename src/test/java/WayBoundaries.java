@@ -203,6 +203,9 @@ public final class WayBoundaries extends Checks {
         x.setBlocked(6, true);
         due(1, () -> count.on(x, 0, 3));
         changesNothing(y -> count.on(y, 0, 2));
+        // Here a path that was turned back may be taken once more, in either direction.
+        due(3, () -> count.on(connected(7, "43 16 02 52 54 64 05 30 04 62 21"), 0, 6));
+        due(4, () -> count.on(connected(6, "53 03 25 31 05 41 40 32 45 01"), 0, 5));
 
         sentence("- `first`: the index of a field");
         for (int field = 2; field < 9; field++) {
@@ -251,6 +254,15 @@ public final class WayBoundaries extends Checks {
         }
         dueThrow(VALUE, Checks::busy, y -> count.on(y, 0, 0));
         dueThrow(VALUE, () -> fields(1), y -> count.on(y, 0, 0));
+    }
+
+    /** Fields with paths between these pairs. */
+    private static DandelionBroadcast connected(int count, String pairs) {
+        DandelionBroadcast x = fields(count);
+        for (String pair : pairs.split(" ")) {
+            x.addPath(pair.charAt(0) - '0', pair.charAt(1) - '0', 1, 0);
+        }
+        return x;
     }
 
     private static void sameBothWays(DandelionBroadcast x) {
